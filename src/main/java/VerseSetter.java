@@ -15,7 +15,7 @@ public final class VerseSetter {
     private static final int[] LEAST = {6, 0, 0, 2, 1, 0, 0};
     private static final int[] MOST = {40, 4, 9, 20, 3, 2, 2};
     private static final int[] AT_FIRST = {20, 2, 4, 8, 2, 0, 1};
-    private static final int MOST_ROWS = 20;
+    private static final int GREATEST_HEIGHT = 20;
 
     private static final int TEXT_ERROR = -20;
 
@@ -194,8 +194,8 @@ public final class VerseSetter {
         if (v < 0) {
             return BAD;
         }
-        int previous = poem.random();
-        poem.setRandom(v);
+        int previous = poem.randomNumber();
+        poem.setRandomNumber(v);
         return previous;
     }
 
@@ -486,8 +486,8 @@ public final class VerseSetter {
 
         /** One random turn; a call in it that would return an error changes nothing by itself. */
         void turn() {
-            cells[RANDOM] = (int) ((random() * 1103515245L + 12345L) & 0x7fffffffL);
-            int x = random() / 65536;
+            cells[RANDOM] = (int) ((randomNumber() * 1103515245L + 12345L) & 0x7fffffffL);
+            int x = randomNumber() / 65536;
             int y = x / 8;
             switch (x % 8) {
                 case 0:
@@ -517,11 +517,11 @@ public final class VerseSetter {
             return cells[what];
         }
 
-        int random() {
+        int randomNumber() {
             return cells[RANDOM];
         }
 
-        void setRandom(int v) {
+        void setRandomNumber(int v) {
             cells[RANDOM] = v;
         }
 
@@ -873,7 +873,7 @@ public final class VerseSetter {
     /** The probability that no stanza need be cut: each one must then have a page that can hold all its lines that are left. */
     private static final class Odds {
         // For each number of rows, the tenths (to the power of the lines seen) in which a stanza has as many.
-        private final long[] tenths = new long[MOST_ROWS + 1];
+        private final long[] tenths = new long[GREATEST_HEIGHT + 1];
         long numerator;
         long denominator;
 
@@ -910,11 +910,8 @@ public final class VerseSetter {
             return sum;
         }
 
-        /** The denominator is a power of ten, so 2 and 5 are the only divisors to look for. */
+        /** The denominator is a power of ten, so 2 and 5 are the only divisors to look for; 0 is divided down to 0/1. */
         private void reduce() {
-            if (numerator == 0) {
-                denominator = 1;
-            }
             for (int n = 0; n < LINES; n++) {
                 divideBoth(2);
                 divideBoth(5);

@@ -71,6 +71,10 @@ public final class StanzasTest {
         SCRIPT.run("13 lines stay in their stanzas, also if its first line is left out", """
             read "AAA|BBB" = 6; tell(3, 2) = 8; whole(9, 0) = 998001; whole(9, 1) = 1000000
             """);
+        // Eleven lines of two rows are too high for the HEIGHT 20 only if none is left out.
+        SCRIPT.run("13 the greatest HEIGHT", """
+            read "A999A999A999A999A999A999A999A999A999A999A999" = 11; of(10, 5) = 2; tell(3, 20) = 8; whole(5, 0) = 2047; whole(5, 1) = 2048
+            """);
         SCRIPT.run("13 a line that does not fit", """
             read "A1|B9" = 2; tell(0, 8) = 20; whole(5, 0) = 0; whole(5, 1) = 1; whole(10, 0) = 0; whole(10, 1) = 1; whole(0, 0) = 0
             whole(0, 1) = 1; whole(11, 0) = BAD; whole(5, 2) = BAD

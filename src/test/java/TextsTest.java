@@ -65,6 +65,10 @@ public final class TextsTest {
         SCRIPT.run("15 a text that ends directly after |", """
             read "A|" = -22; read "A1|" = -23; read "A1!|" = -24; read "A | " = -24; read "A|   " = -25; read "A|B|" = -24; count(7) = 0
             """);
+        SCRIPT.run("15 nothing of a wrong text is left for the next one", """
+            read "A|" = -22; read() = 0; read "A1|" = -23; read "  " = 0; read "A1" = 1; read "!" = -20; read "A|" = -22; read "1" = -20
+            read "A1x" = -22; read "B," = -21
+            """);
         SCRIPT.run("15 the first of several errors", """
             read "AxE0|" = -21; read "A1,,,|" = -23; read "A||" = -22
             """);
