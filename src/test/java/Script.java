@@ -1,17 +1,15 @@
-import java.lang.reflect.InvocationTargetException;
-import java.lang.reflect.Method;
 import java.util.ArrayList;
 import java.util.List;
-import java.util.Map;
 
 /**
  * Runs texts of calls with the answers that are due, as the document writes them: "line(1, 0) = 0; count(7) = 1".
  * Each text begins with a new object. An answer may be the name of an error: "drop() = NONE".
- * {@code read "A5|B" = 2} stands for a type() of each character between the quotes, and read().
+ * {@code type "A5" = 2} stands for a type() of each character between the quotes, and {@code read "A5|B" = 2} for
+ * these and read(); {@code 3 * line(0, 0) = 2} for three calls. The answer that is given is that of the last call.
  */
 final class Script {
-    private static final Map<String, Long> ERRORS = Map.of("BAD", -1L, "NOT", -2L, "FULL", -3L, "NONE", -4L,
-            "NULL", -11L, "CAST", -12L, "INDEX", -13L, "SIZE", -14L);
+    // What an object answers after so many calls is free.
+    private static final int CALLS_OF_AN_OBJECT = 512;
 
     private int calls = 0;
     private int wrong = 0;
@@ -19,15 +17,36 @@ final class Script {
     /** Runs a text on a new object and returns that object, for checks that a text can't tell. */
     VerseSetter run(String name, String text) {
         VerseSetter setter = new VerseSetter();
+        int made = 0;
         for (String statement : statements(text)) {
             int equals = statement.lastIndexOf('=');
             if (equals < 0) {
                 throw new IllegalArgumentException("no answer in: " + statement);
             }
-            String call = statement.substring(0, equals).trim();
-            due(name + ": " + call, answer(setter, call), value(statement.substring(equals + 1)));
+            String left = statement.substring(0, equals).trim();
+            long last = 0;
+            for (Call call : callsOf(left)) {
+                last = call.on(setter);
+                made++;
+            }
+            due(name + ": " + left, last, Call.value(statement.substring(equals + 1)));
+        }
+        if (made > CALLS_OF_AN_OBJECT) {
+            throw new IllegalArgumentException(made + " calls of one object: " + name);
         }
         return setter;
+    }
+
+    /** Makes the calls of a text on an object, whatever they answer. */
+    static int make(String text, Object target) {
+        int made = 0;
+        for (String statement : statements(text)) {
+            for (Call call : callsOf(statement)) {
+                call.on(target);
+                made++;
+            }
+        }
+        return made;
     }
 
     void due(String call, long got, long want) {
@@ -64,52 +83,22 @@ final class Script {
         return all;
     }
 
-    private static long answer(VerseSetter setter, String call) {
-        if (call.startsWith("read \"")) {
-            for (char c : call.substring(6, call.length() - 1).toCharArray()) {
-                setter.type(c);
+    static List<Call> callsOf(String text) {
+        List<Call> all = new ArrayList<>();
+        if (text.startsWith("read \"") || text.startsWith("type \"")) {
+            for (char c : text.substring(6, text.length() - 1).toCharArray()) {
+                all.add(new Call("type", c));
             }
-            return setter.read();
-        }
-        String name = call.substring(0, call.indexOf('('));
-        String inside = call.substring(call.indexOf('(') + 1, call.lastIndexOf(')')).trim();
-        String[] arguments = inside.isEmpty() ? new String[0] : inside.split(",");
-        for (Method method : VerseSetter.class.getMethods()) {
-            if (method.getName().equals(name) && method.getParameterCount() == arguments.length) {
-                return invoke(setter, method, arguments);
+            if (text.startsWith("read")) {
+                all.add(new Call("read"));
             }
+            return all;
         }
-        throw new IllegalArgumentException("no such method: " + call);
-    }
-
-    private static long invoke(VerseSetter setter, Method method, String[] arguments) {
-        Object[] values = new Object[arguments.length];
-        for (int i = 0; i < values.length; i++) {
-            long v = value(arguments[i]);
-            if (method.getParameterTypes()[i] == long.class) {
-                values[i] = v;
-            } else {
-                values[i] = Math.toIntExact(v);
-            }
+        int star = text.indexOf(" * ");
+        int times = star < 0 ? 1 : Integer.parseInt(text.substring(0, star).trim());
+        for (int n = 0; n < times; n++) {
+            all.add(Call.parse(star < 0 ? text : text.substring(star + 3)));
         }
-        try {
-            return ((Number) method.invoke(setter, values)).longValue();
-        } catch (IllegalAccessException | InvocationTargetException e) {
-            throw new IllegalStateException(method.getName() + " threw", e);
-        }
-    }
-
-    private static long value(String text) {
-        String t = text.trim();
-        if (ERRORS.containsKey(t)) {
-            return ERRORS.get(t);
-        }
-        if (t.equals("MAX")) {
-            return Integer.MAX_VALUE;
-        }
-        if (t.equals("MIN")) {
-            return Integer.MIN_VALUE;
-        }
-        return Long.parseLong(t.endsWith("L") ? t.substring(0, t.length() - 1) : t);
+        return all;
     }
 }
