@@ -81,7 +81,8 @@ final class PageBoundaries {
             sheet("AAAAAA", 2, 2, 2, 2, 2) + 2, sheet("AAAAAAAAA", 3, 3, 3, 3, 3) + 2,
             // Lines of the next stanza do not count.
             sheet("BBB|A", 2, 5, 2, 2) + "NONE", sheet("BBB|A", 1, 5, 2, 2) + 1, sheet("BBBB|A", 2, 5, 2, 3) + 1);
-        boundary.holds("Pages", "KEEP", """
+        // The same by the distribution that is used, not by one on a sheet.
+        boundary.holds("Pages", "at least KEEP of its lines are on the page before the cut, and at least KEEP of its lines follow after the cut", """
             read "AAA" = 3; tell(3, 2) = 8; count(10) = NONE; tell(4, 1) = 2; count(10) = 2; page(0, 1) = 2; page(1, 1) = 1
             """, """
             read "AAAAA" = 5; tell(3, 4) = 8; count(10) = 2; page(0, 1) = 3; tell(4, 1) = 2; page(0, 1) = 4; tell(4, 3) = 1; count(10) = NONE
