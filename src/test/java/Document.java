@@ -72,4 +72,9 @@ final class Document {
     Set<String> names() {
         return sections.keySet();
     }
+
+    /** The whole section, in which a line break ends a paragraph or an item of a list. */
+    String text(String section) {
+        return sections.getOrDefault(section, "");
+    }
 }
