@@ -58,7 +58,10 @@ final class RefusedCalls {
         refused(States.UNFIT, "of(1, 5) = NONE", "of(1, 6) = NONE", "of(0, 7) = NONE", "of(3, 5) = BAD", "of(1, 8) = BAD", "said(1, 0, 2) = NONE", "said(1, 1, 3) = NONE",
             "said(1, 2, 2) = BAD", "said(1, 0, 4) = BAD", "count(9) = NONE", "count(10) = NONE", "count(11) = NONE", "page(0, 0) = BAD", "page(0, 3) = BAD",
             "whole(11, 0) = BAD", "whole(5, 2) = BAD");
-        refused(States.NO_PAGES, "of(0, 7) = NONE", "count(10) = NONE", "count(11) = NONE", "page(0, 0) = BAD");
+        // NONE is a value of a line or a word there ("that says that there is no such number"), so the line or the word must exist.
+        refused(States.UNFIT, "of(3, 6) = BAD", "of(3, 7) = BAD", "of(12, 7) = BAD", "of(-1, 7) = BAD", "said(3, 0, 2) = BAD", "said(1, 6, 3) = BAD",
+            "said(1, -1, 2) = BAD");
+        refused(States.NO_PAGES, "of(0, 7) = NONE", "of(12, 7) = BAD", "of(-1, 7) = BAD", "count(10) = NONE", "count(11) = NONE", "page(0, 0) = BAD");
     }
 
     private void doing() {
